@@ -161,6 +161,10 @@ public final class WaysTest {
         Checks.dueThrow("take(2, 0)", MISSING, () -> x.take(2, 0));
         Checks.dueThrow("take(-1, 0)", MISSING, () -> x.take(-1, 0));
         Checks.due("a row that was not taken is missing", x.row(0, 1), true);
+        x.best(0, 1, 200);
+        Checks.due("take of 200", x.take(0, 1), 200);
+        Checks.due("the last of 200", x.at(1, 199), 0);
+        Checks.dueThrow("behind the last of 200", BOUNDS, () -> x.at(1, 200));
     }
 
     private static void wrongSearches() {
