@@ -76,6 +76,9 @@ public final class FaceTest {
             Checks.due(c + " has few fields", fields <= 20, true);
             for (Method m : c.getDeclaredMethods()) {
                 Checks.due(c + "." + m.getName() + " has few parameters", m.getParameterCount() <= 7, true);
+                for (String of : FACE) {
+                    Checks.due(c + "." + m.getName() + " like " + of, of.contains(" " + m.getName() + "("), false);
+                }
             }
         }
     }
