@@ -1281,7 +1281,8 @@ public final class PathDecoder {
             for (int s = 0; s < lattice.states; s++) {
                 addIfFree(s);
             }
-            for (int i = 0; i < orderCount; i++) {
+            // A STATE is added once, so there are never more of them than STATES.
+            for (int i = 0; i < orderCount && i < lattice.states; i++) {
                 for (int edge = 2 * order[i]; edge <= 2 * order[i] + 1; edge++) {
                     if (isSilent(edge)) {
                         waiting[lattice.next[edge]]--;
